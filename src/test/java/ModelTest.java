@@ -2,7 +2,7 @@ import java.util.Random;
 
 /** Runs of calls by chance, always the same ones, on LineColours and on the plain model side by side. */
 public final class ModelTest {
-    private static final int RUNS = 1500;
+    private static final int RUNS = 700;
     private static final int CALLS = 480;
     private static final int NAMES = 41;
 
