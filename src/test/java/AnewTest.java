@@ -141,6 +141,9 @@ public final class AnewTest {
         doc.say(25, "FIRST and LISTED told by turns");
         doc.dueRow(Scene.path(4).then("list 0 2; first 3 0; listed 0"), "first 3 #", 0, 1, 0);
         doc.dueRow(Scene.path(4).then("list 0 2; listed 0; first 3 0"), "listed #", 1, 0, 1);
+        doc.say(22, "-2: by none it would be less, once it was SWAPPED");
+        doc.due(Scene.path(4).painted("020"), "calmer 0", 2);
+        doc.due(Scene.path(4).painted("020").then("calmer 0; swap 0 1"), "calmer 0", -2);
         doc.say(4, "COLOURS that LINES have stay as LINES come");
         doc.dueColours(Scene.path(3).painted("02").then("line 0 2"), "02.");
     }

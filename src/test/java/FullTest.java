@@ -15,6 +15,7 @@ public final class FullTest {
         test.useOfTwentyLines();
         test.ninePosts();
         test.nineColours();
+        test.belowDegree();
         test.oneForTwoPosts();
         test.nineLines();
         test.sixLines();
@@ -110,6 +111,19 @@ public final class FullTest {
         doc.due(star, "critical", 255);
     }
 
+    private void belowDegree() {
+        Scene path = Scene.net(5, 0, 1, 1, 2, 3, 4, 2, 3);
+        doc.say(10, "the least COLOUR that is FREE at both its POSTS, if one below DEGREE is; else a CHAIN is TURNED");
+        doc.dueColours(path.then("pair"), "0110");
+        doc.due(path.painted("010."), "free 3", 4);
+        doc.say(10, "all LINES lose their COLOURS");
+        doc.due(path.painted("2102"), "pair", 4);
+        doc.dueColours(path.painted("2102").then("pair"), "0110");
+        doc.say(10, "one LINE, DEGREE 1");
+        doc.due(Scene.path(2), "pair", 1);
+        doc.dueColours(Scene.path(2).painted("1").then("pair"), "0");
+    }
+
     private void oneForTwoPosts() {
         doc.say(3, "NONE: there is one between them");
         doc.due(Scene.net(2, 0, 1), "line 0 1", NONE);
@@ -142,6 +156,7 @@ public final class FullTest {
     private void sixLines() {
         doc.say(34, "KINDS by k, if there are 6 LINES at most");
         doc.dueRow(SIX_LINES, "kinds #", NONE, 0, 1, 1, 1, NONE);
+        doc.dueRow(Scene.net(5, 0, 2, 0, 3, 0, 4, 1, 2, 1, 3, 1, 4), "kinds #", NONE, 0, 0, 2, 1, NONE);
         doc.say(34, "-2: there are more LINES");
         doc.dueRow(SEVEN_LINES, "kinds #", NONE, -2, -2, -2, -2, NONE);
         doc.due(TWENTY, "kinds 4", -2);
@@ -150,6 +165,11 @@ public final class FullTest {
         doc.due(six, "turns 2", 0);
         doc.due(six.then("turn 0 0 1"), "turns 2", 1);
         doc.due(six.then("paint 5 2"), "turns 3", 1);
+        doc.say(35, "LINES in the last of 4 COLOURS");
+        Scene last = Scene.net(9, 0, 1, 2, 3, 4, 5, 0, 6, 0, 7, 7, 8).painted("333013").then("keep");
+        doc.due(last, "turns 4", 0);
+        doc.due(last.then("paint 2 0"), "turns 4", 1);
+        doc.due(last.then("paint 1 2; paint 2 0"), "turns 4", 2);
         doc.say(35, "NONE: others (more than 6 LINES)");
         Scene seven = SEVEN_LINES.painted("0101010").then("keep");
         doc.dueRow(seven, "turns #", NONE, NONE, NONE, NONE, NONE, NONE);

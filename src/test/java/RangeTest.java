@@ -7,6 +7,9 @@ public final class RangeTest {
     /** As many lines at one post and as many colours as there can be: lines 0 .. 7, colours 0 .. 8. */
     private static final Scene STAR = Scene.star(8);
     private static final Scene PAINTED_STAR = STAR.painted("12345678");
+    /** Petersen's net without a post: three lines at most meet, no odd set has too many, yet three colours don't do. */
+    private static final Scene HARD =
+            Scene.net(9, 0, 1, 1, 2, 2, 3, 0, 5, 1, 6, 2, 7, 3, 8, 4, 6, 4, 7, 5, 7, 5, 8, 6, 8);
 
     private final Sentences doc = new Sentences();
 
@@ -271,6 +274,7 @@ public final class RangeTest {
         Scene scene = PATH.painted("020");
         doc.say(22, "by how much less, the COLOURS");
         doc.dueRow(scene, "calmer #", 2, 0, 1);
+        doc.dueRow(Scene.net(8, 0, 1, 0, 2, 0, 3, 0, 4, 5, 6, 6, 7).painted("012401"), "calmer #", 1, 3, 4);
         doc.say(22, "NONE for others");
         doc.dueBeyond(scene, "calmer #", 0, 2, NONE);
         doc.say(22, "-2: by none it would be less");
@@ -342,6 +346,10 @@ public final class RangeTest {
         doc.say(27, "a set of POSTS has more LINES within than k times half of its number");
         doc.dueRow(Scene.round(5), "refused # 0", 1, 1, 2, 0);
         doc.dueRow(Scene.round(5), "refused # 1", 0, 0, 31, 0);
+        doc.say(27, "else 3 there is no FIRST by k, else 0");
+        doc.dueRow(HARD, "refused # 0", 1, 1, 1, 3, 0, 0, 0, 0, 0, 0);
+        doc.say(27, "the POST, or the set (0: with 0, 3)");
+        doc.dueRow(HARD, "refused # 1", 0, 0, 1, 0, 0, 0, 0, 0, 0, 0);
         doc.say(27, "NONE: no such k");
         doc.dueBeyond(STAR, "refused # 0", 0, 9, NONE);
         doc.dueBeyond(STAR, "refused # 1", 0, 9, NONE);
@@ -455,6 +463,14 @@ public final class RangeTest {
         Scene kept = PAINTED_PATH.then("keep; bare 2");
         doc.say(40, "how many LINES are UNLIKE, whether both are LIKE");
         doc.dueRow(kept, "unlike #", 1, 0);
+        doc.say(40, "LINES without COLOUR the same: one that alone has none in one of both");
+        doc.due(Scene.path(2).then("keep; paint 0 0"), "unlike 1", 0);
+        doc.due(Scene.path(2).then("paint 0 0; keep; bare 0"), "unlike 1", 0);
+        doc.due(Scene.path(2).then("paint 0 0; keep; paint 0 1"), "unlike 1", 1);
+        doc.say(40, "some exchange of COLOURS: no two become one, no one becomes two");
+        doc.due(PATH.painted("012").then("keep; paint 2 0"), "unlike 1", 0);
+        doc.due(PATH.painted("010").then("keep; paint 2 2"), "unlike 1", 0);
+        doc.due(PATH.painted("010").then("keep; swap 0 1; swap 0 2"), "unlike 1", 1);
         doc.say(40, "NONE for others");
         doc.dueBeyond(kept, "unlike #", 0, 1, NONE);
     }

@@ -109,6 +109,7 @@ public final class RefusedTest {
         doc.say(12, "false, and nothing happens: there is none by less than 0");
         doc.dueRefused(EVEN, "take -1", 0);
         doc.dueRefused(EVEN, "take " + LEAST, 0);
+        doc.dueRefused(EVEN.then("first 3 0; list 1 5"), "take -1", 0);
     }
 
     private void list() {
