@@ -17,6 +17,7 @@ public final class EmptyTest {
         test.keptWithoutLines();
         test.changesWithoutColours();
         test.looksWithoutColours();
+        test.fewestWithoutColours();
         test.nothingGrown();
         test.nothingKept();
         test.emptyLists();
@@ -223,6 +224,28 @@ public final class EmptyTest {
         doc.due(BARE.painted("2.."), "chains 0 1", 0);
         doc.say(41, "LINES without COLOUR, COLOURS that are used, (among used ones; 0 without)");
         doc.dueRow(BARE, "count #", 4, 3, 2, 3, 0, 0, 0, 3, NONE);
+    }
+
+    private void fewestWithoutColours() {
+        for (Scene scene : new Scene[] {BARE, BARE.painted("2.."), BARE.painted("120")}) {
+            doc.say(24, "how few do: no matter which LINES have COLOURS (INDEX, FIRST, CRITICAL)");
+            doc.due(scene, "index", 2);
+            doc.dueRow(scene, "first 2 #", 0, 1, 0, NONE);
+            doc.due(scene, "critical", 2);
+            doc.say(27, "how few do: no matter which LINES have COLOURS (REFUSED, OVERFULL)");
+            doc.dueRow(scene, "refused # 0", 1, 1, 0);
+            doc.dueRow(scene, "overfull #", -2, -2, -2);
+            doc.say(29, "how few do: no matter which LINES have COLOURS (LISTED)");
+            doc.dueRow(scene, "listed #", 0, 1, 0, NONE);
+            doc.say(32, "how few do: no matter which LINES have COLOURS (APART)");
+            doc.dueRow(scene, "sets #", 1, 3, 1, 0, 0, NONE);
+            doc.dueRow(scene, "apart #", 2, 5, NONE);
+            doc.say(34, "how few do: no matter which LINES have COLOURS (KINDS, WAYS)");
+            doc.dueRow(scene, "kinds #", NONE, 0, 1, 1, 1, NONE);
+            doc.dueRow(scene, "ways #", 0, 0, 2, 12);
+            doc.say(37, "how few do: no matter which LINES have COLOURS (SIDES)");
+            doc.dueRow(scene, "sides #", 1, 5, 0, NONE);
+        }
     }
 
     private void nothingGrown() {
