@@ -10,7 +10,10 @@ final class Sentences {
     private String sentence = "";
     private int said = 0;
 
-    /** The words are the document's; what is asked from here on holds the class to them. */
+    /**
+     * The words are the document's, or say which case of its sentence is meant; what is asked from
+     * here on holds the class to it.
+     */
     void say(int promise, String words) {
         sentence = "promise " + promise + ", \"" + words + "\": ";
         said++;
@@ -61,7 +64,7 @@ final class Sentences {
     }
 
     void end() {
-        System.out.println(said + " sentences");
+        System.out.println(said + " sentences and cases of them");
         check.end();
     }
 }
