@@ -9,6 +9,9 @@ public final class RefusedTest {
     /** With sides, six lines, all of which have colours. */
     private static final Scene EVEN = Scene.net(5, 0, 2, 0, 3, 0, 4, 1, 2, 1, 3, 1, 4)
             .then("growAll; keep; swap 0 2; list 1 5");
+    /** No number of the line that was grown last is 0. */
+    private static final Scene GROWN = Scene.net(7, 3, 0, 4, 3, 2, 3, 4, 5, 6, 5, 6, 3).painted("0.1104")
+            .then("list 0 6; list 5 500; keep; grow 1; keep; paint 1 3");
     private static final Scene TWENTY = Scene.full(7, 20).then("grow 3; grow 8; keep; growAll; list 19 3");
 
     private final Sentences doc = new Sentences();
@@ -34,6 +37,7 @@ public final class RefusedTest {
             doc.dueRefused(ODD, "begin " + n, 0);
         }
         doc.dueRefused(EVEN, "begin 0", 0);
+        doc.dueRefused(GROWN, "begin 10", 0);
         doc.dueRefused(Scene.NEW, "begin 10", 0);
     }
 
@@ -137,12 +141,13 @@ public final class RefusedTest {
         doc.dueRefused(ODD, "swap 4 0", NONE);
         doc.say(14, "NONE: nothing is KEPT (there is nothing to happen)");
         doc.dueRefused(Scene.path(4).painted("01."), "back", NONE);
+        doc.dueRefused(Scene.net(5, 2, 3, 1, 0, 3, 1, 3, 0, 0, 4).painted("012.0").then("grow 3"), "back", NONE);
     }
 
     /** As a whole run of them: what a question remembers must not change what is told later. */
     private void questionsChangeNothing() {
         doc.say(24, "Nothing is promised beyond the answers and state changes described");
-        for (Scene scene : new Scene[] {ODD, EVEN}) {
+        for (Scene scene : new Scene[] {ODD, EVEN, GROWN}) {
             StringBuilder asked = new StringBuilder();
             int calls = 0;
             for (String question : Look.questions(scene)) {
