@@ -19,6 +19,7 @@ public final class ChangesTest {
         test.grown();
         test.all();
         test.kept();
+        test.keptByKeepAlone();
         test.list();
         test.line();
         test.begin();
@@ -78,6 +79,21 @@ public final class ChangesTest {
         doc.dueColours(RICH.then("keep"), NOW);
         doc.dueColours(RICH.then("keep; pair; back"), NOW);
         dueLeft(RICH, "keep", network(RICH), lists(RICH), grownOnes());
+    }
+
+    private void keptByKeepAlone() {
+        Scene unkept = Scene.round(4).painted("01..").then("grow 2");
+        doc.say(13, "nothing is KEPT but by keep()");
+        for (String call : new String[] {"line 0 2", "line 0 1", "paint 3 1", "paint 3 9", "bare 0", "bare 3", "turn 1 0 1",
+            "turn 1 0 0", "swap 0 2", "swap 0 0", "grow 3", "grow 0", "growAll", "pair", "line 0 2; pair", "even", "take 2",
+            "take 1", "back", "list 0 3", "list 0 512", "begin 4", "begin 10"}) {
+            doc.due(unkept.then(call), "count 6", 0);
+            doc.due(unkept.then(call), "unlike 0", -2);
+            doc.due(unkept.then(call), "back", NONE);
+        }
+        for (String question : Look.questions(unkept)) {
+            doc.due(unkept.then(question), "count 6", 0);
+        }
     }
 
     private void list() {

@@ -12,6 +12,14 @@ public final class RefusedTest {
     /** No number of the line that was grown last is 0. */
     private static final Scene GROWN = Scene.net(7, 3, 0, 4, 3, 2, 3, 4, 5, 6, 5, 6, 3).painted("0.1104")
             .then("list 0 6; list 5 500; keep; grow 1; keep; paint 1 3");
+    /** An odd round; no number of the line that was grown last is 0, a line has no colour, nothing is kept. */
+    private static final Scene UNKEPT = Scene.net(5, 2, 3, 1, 0, 3, 1, 3, 0, 0, 4).painted("012.0")
+            .then("grow 3; list 4 3; bare 4");
+    /** As that, but all lines have colours, and by turning chains it comes of what is kept. */
+    private static final Scene TURNED = Scene.net(5, 2, 3, 1, 0, 3, 1, 3, 0, 0, 4).painted("012.0")
+            .then("grow 3; list 4 3; keep; swap 0 2");
+    /** Nine lines, too many for the degree; some of the last ones are kept with colours. */
+    private static final Scene CROWDED = Scene.full(5, 9).painted("01.2..340").then("grow 2; keep; bare 7; grow 4; list 8 7");
     private static final Scene TWENTY = Scene.full(7, 20).then("grow 3; grow 8; keep; growAll; list 19 3");
 
     private final Sentences doc = new Sentences();
@@ -26,6 +34,7 @@ public final class RefusedTest {
         test.take();
         test.list();
         test.others();
+        test.grownStays();
         test.questionsChangeNothing();
         test.noneAheadOfOthers();
         test.doc.end();
@@ -141,13 +150,26 @@ public final class RefusedTest {
         doc.dueRefused(ODD, "swap 4 0", NONE);
         doc.say(14, "NONE: nothing is KEPT (there is nothing to happen)");
         doc.dueRefused(Scene.path(4).painted("01."), "back", NONE);
-        doc.dueRefused(Scene.net(5, 2, 3, 1, 0, 3, 1, 3, 0, 0, 4).painted("012.0").then("grow 3"), "back", NONE);
+    }
+
+    private void grownStays() {
+        doc.say(15, "a call that is refused leaves what was GROWN last as it was");
+        doc.dueRefused(GROWN, "line 3 0", NONE);
+        doc.dueRefused(GROWN, "paint 0 1", 0);
+        doc.dueRefused(GROWN, "bare 6", NONE);
+        doc.dueRefused(GROWN, "turn 7 0 1", NONE);
+        doc.dueRefused(GROWN, "swap 0 0", NONE);
+        doc.dueRefused(GROWN, "grow 0", -2);
+        doc.dueRefused(GROWN, "take 3", 0);
+        doc.dueRefused(GROWN, "list 0 512", NONE);
+        doc.dueRefused(UNKEPT, "pair", -2);
+        doc.dueRefused(UNKEPT, "back", NONE);
     }
 
     /** As a whole run of them: what a question remembers must not change what is told later. */
     private void questionsChangeNothing() {
         doc.say(24, "Nothing is promised beyond the answers and state changes described");
-        for (Scene scene : new Scene[] {ODD, EVEN, GROWN}) {
+        for (Scene scene : new Scene[] {ODD, EVEN, GROWN, UNKEPT, TURNED, CROWDED}) {
             StringBuilder asked = new StringBuilder();
             int calls = 0;
             for (String question : Look.questions(scene)) {

@@ -25,6 +25,7 @@ public final class TermsTest {
         test.evenWhichChain();
         test.firstByMoreThanColours();
         test.firstOfLateLines();
+        test.firstByIndex();
         test.overfull();
         test.lists();
         test.critical();
@@ -177,6 +178,28 @@ public final class TermsTest {
         doc.dueColours(TWENTY.then("growAll; take 7"), all.toString());
     }
 
+    /** Found by trying all in their order, without the class: some of them only after hundreds of tries. */
+    private void firstByIndex() {
+        doc.say(25, "FIRST by as few as INDEX, where LINES ahead must leave COLOURS to those behind");
+        dueFirst(Scene.full(6, 15), 5, "012342341403102");
+        dueFirst(Scene.full(7, 18), 6, "012345341525204013");
+        dueFirst(HARD, 4, "010122101023");
+        dueFirst(Scene.net(9, 0, 4, 0, 5, 0, 6, 0, 7, 0, 8, 1, 4, 1, 5, 1, 6, 1, 7, 1, 8, 2, 4, 2, 5, 2, 6, 2, 7, 2, 8,
+                3, 4, 3, 5, 3, 6, 3, 7, 3, 8), 5, "01234103422340134120");
+        dueFirst(Scene.net(6, 0, 1, 0, 2, 0, 3, 0, 4, 1, 2, 1, 3, 1, 5, 2, 4, 2, 5, 3, 4, 3, 5, 4, 5), 4, "012323103102");
+        dueFirst(Scene.net(8, 0, 1, 0, 2, 0, 4, 0, 6, 0, 7, 1, 2, 1, 3, 1, 5, 1, 7, 2, 3, 2, 4, 2, 6, 3, 4, 3, 5, 3, 7,
+                4, 5, 4, 6, 5, 6, 5, 7, 6, 7), 5, "01234214303443201210");
+    }
+
+    private void dueFirst(Scene scene, int index, String colours) {
+        doc.due(scene, "index", index);
+        for (int line = 0; line < colours.length(); line++) {
+            doc.due(scene, "first " + index + " " + line, colours.charAt(line) - '0');
+            doc.due(scene, "first " + (index - 1) + " " + line, -2);
+        }
+        doc.dueColours(scene.then("take " + index), colours);
+    }
+
     private void overfull() {
         doc.say(26, "a set of POSTS, three at least, an odd number: 3, 5, 7");
         doc.dueRow(Scene.net(9, 4, 6, 6, 8, 8, 4), "overfull #", 336, 3, 2, NONE);
@@ -190,7 +213,7 @@ public final class TermsTest {
         doc.dueRow(Scene.path(3).painted("0.").then("list 0 1; list 1 1"), "listed #", -2, -2, NONE);
         doc.dueRow(Scene.path(3).painted("12").then("list 0 3; list 1 6"), "listed #", 0, 1, NONE);
         doc.say(28, "LISTS bind LISTED alone: COLOURS that they lack can be had");
-        Scene listed = Scene.path(4).then("list 0 256; list 1 0; list 2 256");
+        Scene listed = Scene.path(4).then("list 0 0; list 1 256; list 2 0");
         doc.due(listed, "paint 0 0", 1);
         doc.due(listed, "grow 1", 0);
         doc.dueColours(listed.then("growAll"), Scene.path(4).then("growAll").colours());
@@ -225,6 +248,10 @@ public final class TermsTest {
     }
 
     private void sides() {
+        doc.say(37, "that with its least POST, be it the lesser or the greater part");
+        doc.due(Scene.star(3), "sides 1", 1);
+        doc.due(Scene.net(4, 1, 0, 1, 2, 1, 3), "sides 1", 1 | 4 | 8);
+        doc.due(Scene.net(6, 5, 1, 5, 3, 5, 4), "sides 1", 1 | 2 | 4 | 8 | 16);
         doc.say(37, "of how many POSTS the least odd round is: not that with the least POST");
         doc.due(Scene.net(8, 0, 1, 1, 2, 2, 3, 3, 4, 4, 0, 5, 6, 6, 7, 7, 5), "sides 2", 3);
         doc.due(Scene.net(8, 0, 1, 1, 2, 2, 0, 3, 4, 4, 5, 5, 6, 6, 7, 7, 3), "sides 2", 3);
